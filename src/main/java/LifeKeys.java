@@ -46,7 +46,7 @@ public final class LifeKeys {
         things = new Things();
         signatures = new Signatures();
         loans = new Loans();
-        reach = new Reach(keys, ties, partings);
+        reach = new Reach();
     }
 
     // ---- days, holders, keys and the tape ----
@@ -239,7 +239,7 @@ public final class LifeKeys {
         if (!isSet(holders) || !isPast(day)) {
             return NONE;
         }
-        reach.settle(day);
+        settleReach(day);
         return reach.gets(holders);
     }
 
@@ -461,7 +461,7 @@ public final class LifeKeys {
         if (!isFall(fall) || what < 0 || what > 1) {
             return NONE;
         }
-        reach.settle(now);
+        settleReach(now);
         if (what == 1) {
             return reach.gets(falls[fall]);
         }
@@ -484,7 +484,7 @@ public final class LifeKeys {
         if (!partings.inForce(parting, now)) {
             return NONE;
         }
-        reach.settle(now);
+        settleReach(now);
         int own = partings.need[parting];
         int most = Integer.bitCount(partings.set[parting]);
         for (int away = 0; away < MOST_HOLDERS; away++) {
@@ -502,7 +502,7 @@ public final class LifeKeys {
         if (!isFall(fall) || i < 0 || i >= Keys.MOST) {
             return NONE;
         }
-        reach.settle(now);
+        settleReach(now);
         long waiting = reach.gets(falls[fall]);
         int next = reach.lowestFree(waiting);
         for (int turn = 0; turn < i && next != NONE; turn++) {
@@ -617,8 +617,12 @@ public final class LifeKeys {
         return rules.holds(rule, sayings.voices(about, upTo), 0, waited);
     }
 
+    private void settleReach(int day) {
+        reach.settle(day, keys, ties, partings);
+    }
+
     private boolean getsNow(int holder, int key) {
-        reach.settle(now);
+        settleReach(now);
         return hasKey(reach.gets(1 << holder), key);
     }
 
@@ -665,7 +669,7 @@ public final class LifeKeys {
         if (!keys.knows(key) || what < 0 || what > 1) {
             return false;
         }
-        reach.settle(now);
+        settleReach(now);
         reach.searchLeast(key, what == 1, allHolders());
         return reach.leastWays > 0;
     }
@@ -1106,7 +1110,6 @@ public final class LifeKeys {
             end = Math.min(to, bytes.length);
             faultAt = NONE;
             boolean holding = any(0);
-            skipBlanks();
             if (at < end) {
                 stop(at);
             }
@@ -1473,10 +1476,9 @@ public final class LifeKeys {
         private static final int MORE_THAN_ALL = MOST_HOLDERS + 1;
         private static final int MOST_STEPS = Keys.MOST + Ties.MOST_WRAPS;
 
-        private final Keys keys;
-        private final Ties ties;
-        private final Partings partings;
         private final long[] held = new long[MOST_HOLDERS];
+        private final int[] key = new int[Partings.MOST];
+        private final int[] set = new int[Partings.MOST];
         private final int[] need = new int[Partings.MOST];
         private final int[] live = new int[Partings.MOST];
         private int liveCount;
@@ -1487,22 +1489,9 @@ public final class LifeKeys {
         private int leastWays;
         private int leastFirst;
 
-        Reach(Keys keys, Ties ties, Partings partings) {
-            this.keys = keys;
-            this.ties = ties;
-            this.partings = partings;
-        }
-
-        void settle(int day) {
+        void settle(int day, Keys keys, Ties ties, Partings partings) {
             ties.heldOn(day, held);
-            liveCount = 0;
-            for (int i = 0; i < partings.count; i++) {
-                if (partings.inForce(i, day)) {
-                    need[i] = partings.need[i];
-                    live[liveCount] = i;
-                    liveCount++;
-                }
-            }
+            settlePartings(day, partings);
             steps = 0;
             for (int i = 0; i < keys.count; i++) {
                 if (keys.sort[i] == Keys.MADE && keys.day[i] <= day) {
@@ -1516,6 +1505,19 @@ public final class LifeKeys {
             }
         }
 
+        private void settlePartings(int day, Partings partings) {
+            liveCount = 0;
+            for (int i = 0; i < partings.count; i++) {
+                if (partings.inForce(i, day)) {
+                    key[i] = partings.key[i];
+                    set[i] = partings.set[i];
+                    need[i] = partings.need[i];
+                    live[liveCount] = i;
+                    liveCount++;
+                }
+            }
+        }
+
         private void addStep(int fromKey, int toKey) {
             if (steps < MOST_STEPS) {
                 from[steps] = fromKey;
@@ -1524,27 +1526,27 @@ public final class LifeKeys {
             }
         }
 
-        long gets(int set) {
-            return onward(atOnce(set));
+        long gets(int of) {
+            return onward(atOnce(of));
         }
 
-        private long atOnce(int set) {
+        private long atOnce(int of) {
             long got = 0;
             for (int i = 0; i < MOST_HOLDERS; i++) {
-                if (hasBit(set, i)) {
+                if (hasBit(of, i)) {
                     got |= held[i];
                 }
             }
             for (int i = 0; i < liveCount; i++) {
-                if (suffices(live[i], set)) {
-                    got |= 1L << partings.key[live[i]];
+                if (suffices(live[i], of)) {
+                    got |= 1L << key[live[i]];
                 }
             }
             return got;
         }
 
-        private boolean suffices(int parting, int set) {
-            return Integer.bitCount(set & partings.set[parting]) >= need[parting];
+        private boolean suffices(int parting, int of) {
+            return Integer.bitCount(of & set[parting]) >= need[parting];
         }
 
         /** Each round but the last adds a KEY at least, so as many rounds as KEYS are enough. */
@@ -1563,8 +1565,8 @@ public final class LifeKeys {
         }
 
         /** All KEYS from which one comes to this one. */
-        private long sources(int key) {
-            long found = 1L << key;
+        private long sourcesOf(int aim) {
+            long found = 1L << aim;
             long before = 0;
             for (int round = 0; round <= Keys.MOST && found != before; round++) {
                 before = found;
@@ -1590,7 +1592,7 @@ public final class LifeKeys {
         private void keepLive(long some) {
             int kept = 0;
             for (int i = 0; i < liveCount; i++) {
-                if (hasKey(some, partings.key[live[i]])) {
+                if (hasKey(some, key[live[i]])) {
                     live[kept] = live[i];
                     kept++;
                 }
@@ -1599,45 +1601,45 @@ public final class LifeKeys {
         }
 
         /** A FALL has one HOLDER at least, so the empty set is none of those looked at. */
-        void searchLeast(int key, boolean bare, int all) {
-            long sources = sources(key);
+        void searchLeast(int aim, boolean bare, int all) {
+            long sources = sourcesOf(aim);
             int owners = holdersOfAny(sources);
             keepLive(sources);
             leastSize = MORE_THAN_ALL;
             leastWays = 0;
             leastFirst = 0;
-            for (int set = 1; set <= all; set++) {
-                int size = Integer.bitCount(set);
-                if (size <= leastSize && comesTo(bare ? set : all & ~set, owners) == bare) {
-                    takeLeast(set, size);
+            for (int fallen = 1; fallen <= all; fallen++) {
+                int size = Integer.bitCount(fallen);
+                if (size <= leastSize && comesTo(bare ? fallen : all & ~fallen, owners) == bare) {
+                    takeLeast(fallen, size);
                 }
             }
         }
 
-        private boolean comesTo(int set, int owners) {
-            if ((set & owners) != 0) {
+        private boolean comesTo(int of, int owners) {
+            if ((of & owners) != 0) {
                 return true;
             }
             for (int i = 0; i < liveCount; i++) {
-                if (suffices(live[i], set)) {
+                if (suffices(live[i], of)) {
                     return true;
                 }
             }
             return false;
         }
 
-        private void takeLeast(int set, int size) {
+        private void takeLeast(int fallen, int size) {
             if (size < leastSize) {
                 leastSize = size;
                 leastWays = 1;
-                leastFirst = set;
+                leastFirst = fallen;
                 return;
             }
             leastWays++;
-            int differ = set ^ leastFirst;
+            int differ = fallen ^ leastFirst;
             int lowest = differ & -differ;
-            if ((set & lowest) != 0) {
-                leastFirst = set;
+            if ((fallen & lowest) != 0) {
+                leastFirst = fallen;
             }
         }
 
@@ -1649,7 +1651,12 @@ public final class LifeKeys {
                     free &= ~(1L << to[i]);
                 }
             }
-            return free == 0 ? NONE : Long.numberOfTrailingZeros(free);
+            for (int i = 0; i < Keys.MOST; i++) {
+                if (hasKey(free, i)) {
+                    return i;
+                }
+            }
+            return NONE;
         }
     }
 }

@@ -128,6 +128,11 @@ public final class PromisesTest {
         is("to 160", x.feed(0, 0, 0, 0, 1), 160);
         is("nothing more", x.feed(0, 0, 0, 0, 0), 160);
         none("to 161", x.feed(0x01000000, 0, 0, 0, 0));
+        none("to 161", x.feed(0, 1, 0, 0, 0));
+        none("to 161", x.feed(0, 0, 0x100, 0, 0));
+        none("to 161", x.feed(0, 0, 0, 0x10000, 0));
+        none("to 164", x.feed(0, 0, 0, 0, -1));
+        is("unchanged", x.count(11), 160);
         // The highest byte comes first: h1 is a rule, 1h is not.
         x.end(0);
         x.feed(0x68310000, 0, 0, 0, 0);
@@ -247,12 +252,17 @@ public final class PromisesTest {
         x.part(0, 3, 2, 1);
         x.part(1, 3, 2, 1);
         is("last", x.told(0, 4), 1);
-        x.again(0, 5);
-        is("last", x.told(0, 4), 3);
+        x.again(1, 5);
         x.again(3, 5);
         x.again(4, 5);
-        is("last", x.told(0, 4), 5);
+        is("last, though the elder ones of its kind are out", x.told(0, 4), 5);
+        x.again(0, 5);
+        is("last", x.told(0, 4), 6);
         is("another", x.told(1, 4), 2);
+        LifeKeys y = with(1);
+        y.key(5, false);
+        y.part(0, 1, 1, 1);
+        is("the first", y.told(0, 4), 0);
     }
 
     private static void giveAndTake() {
@@ -275,6 +285,9 @@ public final class PromisesTest {
         is("no such holder", x.take(2, 0), false);
         is("no such key", x.take(0, 1), false);
         is("no such", x.take(-1, -1), false);
+        is("no such holder", x.take(-1, 0), false);
+        is("no such holder", x.take(12, 0), false);
+        is("no such key", x.take(0, 64), false);
         is("take", x.take(0, 0), true);
         is("it does not have it", x.take(0, 0), false);
         is("that day not any more", x.got(1, 4), 0);
@@ -528,6 +541,8 @@ public final class PromisesTest {
         fault(x, "n012", 3);
         fault(x, "d 20 ", 3);
         fault(x, "w1000", 4);
+        fault(x, "w0001", 4);
+        fault(x, "w12345", 4);
         fault(x, "1000{h1}", 3);
         fault(x, "h", 1);
         fault(x, "h ", 2);
@@ -542,6 +557,8 @@ public final class PromisesTest {
         fault(x, "h1}", 2);
         fault(x, "(h1", 3);
         fault(x, "(h1}", 3);
+        fault(x, "1{h1,!!!!!!!!h2}", 12);
+        fault(x, "1{h1,!!!!!!!h2}", NONE);
         x = new LifeKeys();
         fault(x, "(h1,h2)", 3);
         fault(x, "()", 1);
@@ -791,6 +808,7 @@ public final class PromisesTest {
         holding("2{1{h0},!2{h0,h1},h3}", 1);
         holding("!2{h0,n1}|h1", 0);
         holding("1{h1}|0{h1}", 1);
+        deadOnes();
         promise = 31;
         LifeKeys x = with(3);
         rule(x, "d0|d1|d2");
@@ -813,6 +831,47 @@ public final class PromisesTest {
         is("two days since the first yes, though it was taken back", x.dead(2, 6, 5), 1);
         is("not known", x.dead(2, 6, 3), 0);
         is("not yet told on that day", x.dead(2, 3, 5), 0);
+    }
+
+    /** 0 is dead from day 2 as told on day 2, 1 from day 4; told that they live on day 6. */
+    private static void deadOnes() {
+        promise = 30;
+        LifeKeys x = with(3);
+        rule(x, "h2");
+        rule(x, "d0&!d1");
+        rule(x, "d0&d1");
+        rule(x, "w0|w1");
+        x.seal(1, 1, true);
+        x.seal(1, 2, true);
+        x.death(0, 0);
+        x.death(1, 0);
+        x.days(2);
+        x.mourn(2, 0, true);
+        x.days(2);
+        x.mourn(2, 1, true);
+        x.days(2);
+        x.mourn(2, 0, false);
+        x.mourn(2, 1, false);
+        is("before", x.may(0, 1, 6) + x.may(1, 1, 6), 0);
+        is("the first alone", x.may(0, 3, 6), 1);
+        is("the first alone", x.may(0, 2000, 3), 1);
+        is("both", x.may(1, 4, 6), 1);
+        is("both", x.may(1, 2000, 5), 1);
+        is("both, not the first alone", x.may(0, 5, 5), 0);
+        is("none any more", x.may(0, 6, 6) + x.may(1, 6, 6), 0);
+        promise = 31;
+        is("on an elder day", x.dead(0, 5, 6), 1);
+        is("on a day before all", x.dead(0, 1, 6), 0);
+        is("not any more", x.dead(0, 6, 6), 0);
+        x.death(2, 3);
+        is("nobody said it: no day goes by", x.dead(2, 2000, 6), 0);
+        x.mourn(0, 2, true);
+        is("that day", x.dead(2, 6, 6), 1);
+        LifeKeys y = with(2);
+        rule(y, "w0");
+        y.death(1, 0);
+        y.mourn(0, 1, true);
+        is("the very first saying", y.dead(1, 0, 0), 1);
     }
 
     private static void unsealing() {
@@ -956,7 +1015,9 @@ public final class PromisesTest {
         falseButUnseen(x);
         x.again(0, 5);
         none("OUT", x.several(0, 0b0111, 0, 1));
-        is("the younger", x.several(1, 0b0111, 0, 1), 4);
+        x.seal(11, 0, false);
+        is("the younger", x.several(1, 0b0111, 1, 1), 4);
+        is("another thing", x.signed(4, 3), 1);
         x.burn(0, 1);
         none("burnt", x.several(1, 0b0111, 0, 1));
         x.key(9, false);
@@ -1111,7 +1172,11 @@ public final class PromisesTest {
         x.days(1);
         none("burnt", x.use(3, 0, 1));
         x.key(6, false);
-        x.lend(1, 0, 20, 1, 1);
+        x.lend(1, 0, 20, 2, 1);
+        is("another key", x.use(4, 1, 7), 5);
+        is("key", x.signed(5, 2), 1);
+        is("thing", x.signed(5, 3), 1);
+        is("taken", x.taken(1, 1, x.signed(5, 0), x.signed(5, 1)), 1);
         x.old(1);
         none("old", x.use(4, 1, 1));
         promise = 41;
@@ -1119,6 +1184,13 @@ public final class PromisesTest {
             is("lend", x.lend(1, 0, 20, 1, 1), i);
         }
         none("there are 40, those BACK too", x.lend(1, 0, 20, 1, 1));
+        promise = 42;
+        LifeKeys y = with(1);
+        y.key(5, false);
+        y.seal(1, 0, false);
+        y.lend(0, 0, 0, 1, NONE);
+        is("the first signature of all", y.use(0, 0, 1), 0);
+        none("used so often", y.use(0, 0, 1));
     }
 
     private static void falls() {
@@ -1206,6 +1278,10 @@ public final class PromisesTest {
         leasts(x, 5, 0, 2, 1, 0b1100000000);
         x.again(0, 9);
         leasts(x, 0, 1, 5, 792, 0b11111);
+        x.give(0, 4);
+        leasts(x, 5, 1, 1, 3, 1);
+        leasts(x, 5, 0, 3, 1, 0b1100000001);
+        x.take(0, 4);
         x.days(1);
         x.take(8, 5);
         leasts(x, 5, 1, 1, 1, 1 << 9);
@@ -1255,7 +1331,34 @@ public final class PromisesTest {
         is("5", x.better(0), 5);
         x.fall(0b011111);
         none("none", x.better(0));
+        x = with(4);
+        x.key(5, false);
+        x.part(0, 0b0111, 3, 1);
+        x.fall(0b1000);
+        is("its own", x.better(0), 3);
+        x.fall(0b1001);
+        is("2", x.better(0), 2);
+        betterAtTheEdges();
         betterByOtherWays();
+    }
+
+    private static void betterAtTheEdges() {
+        LifeKeys x = with(4);
+        x.key(5, false);
+        x.part(0, 0b0011, 2, 1);
+        x.fall(0b0100);
+        x.fall(0b1001);
+        none("lost with 2, bare with 1", x.better(0));
+        LifeKeys y = with(12);
+        y.key(5, false);
+        y.part(0, 4094, 11, 1);
+        y.fall(1);
+        is("its own", y.better(0), 11);
+        LifeKeys z = with(12);
+        z.key(5, false);
+        z.part(0, 4095, 1, 1);
+        z.fall(0b11111);
+        is("up to 6", z.better(0), 6);
     }
 
     private static void betterByOtherWays() {
