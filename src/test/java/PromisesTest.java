@@ -515,6 +515,26 @@ public final class PromisesTest {
         x.give(3, 39);
         is("the highest bit", x.got(0b1000, 5), 4 | 1L << 39);
         is("on the day of a parting, and before", x.got(0b1000, 4), 0);
+        longestChain();
+    }
+
+    /** Each key lies in the one before it, and the wraps are told from the innermost on. */
+    private static void longestChain() {
+        LifeKeys x = with(2);
+        for (int i = 0; i < 40; i++) {
+            x.key(1 + i, false);
+        }
+        for (int i = 39; i > 0; i--) {
+            x.wrap(i, i - 1);
+        }
+        x.give(1, 0);
+        is("all", x.got(2, 0), (1L << 40) - 1);
+        is("none", x.got(1, 0), 0);
+        is("least", x.least(39, 1), 1);
+        is("first", x.first(39, 0), 2);
+        x.fall(2);
+        is("order", x.order(0, 39), 39);
+        none("no more", x.order(0, 40));
     }
 
     private static void fault(LifeKeys x, String text, int want) {
