@@ -250,7 +250,10 @@ public final class LifeKeys {
     }
 
     public int rule() {
-        int made = rules.add(tape.bytes, tape.length);
+        if (rules.faultOf(tape.bytes, tape.length) != NONE) {
+            return NONE;
+        }
+        int made = rules.keepDraft();
         if (made != NONE) {
             tape.length = 0;
         }
@@ -1054,19 +1057,28 @@ public final class LifeKeys {
         }
     }
 
-    /** RULES as texts, and the reader that finds a FAULT, or tells whether a RULE holds, as it goes. */
+    /**
+     * RULES. A text is read once: for its FAULT, and into words, in which what is joined comes before
+     * what joins it; so telling later whether the RULE holds is one walk along the words.
+     */
     private static final class Rules {
         private static final int MOST = 20;
         private static final int DEEPEST = 8;
         private static final int MOST_NUMBER = 999;
+        private static final int NUMBERS = MOST_NUMBER + 1;
+        private static final int SIGNS = 256;
 
         private int count;
-        private final int[] texts = new int[MOST * Tape.MOST];
+        private final int[] words = new int[MOST * Tape.MOST];
         private final int[] lengths = new int[MOST];
-        private int[] text = texts;
+        private final int[] draft = new int[Tape.MOST];
+        private int drafted;
+        private int[] text = draft;
         private int at;
         private int end;
         private int faultAt;
+        private final boolean[] stack = new boolean[Tape.MOST];
+        private int height;
         private int saidYes;
         private int saidNo;
         private int deadOnes;
@@ -1077,121 +1089,89 @@ public final class LifeKeys {
         }
 
         int faultOf(int[] bytes, int length) {
-            read(bytes, 0, length);
+            text = bytes;
+            at = 0;
+            end = Math.min(length, bytes.length);
+            faultAt = NONE;
+            drafted = 0;
+            any(0);
+            if (at < end) {
+                stop(at);
+            }
             return faultAt;
         }
 
-        int add(int[] bytes, int length) {
-            if (count >= MOST || faultOf(bytes, length) != NONE) {
+        /** The text that was read last is a RULE from now on. */
+        int keepDraft() {
+            if (count >= MOST) {
                 return NONE;
             }
-            System.arraycopy(bytes, 0, texts, count * Tape.MOST, length);
-            lengths[count] = length;
+            System.arraycopy(draft, 0, words, count * Tape.MOST, drafted);
+            lengths[count] = drafted;
             count++;
             return count - 1;
         }
 
-        /** With bits of those who said yes (and 12 higher, no), of the dead, and days since the asking or NONE. */
-        boolean holds(int rule, int voices, int dead, int days) {
-            if (!knows(rule)) {
-                return false;
-            }
-            saidYes = voices & Sayings.YES;
-            saidNo = voices >>> MOST_HOLDERS;
-            deadOnes = dead;
-            waited = days;
-            int from = rule * Tape.MOST;
-            return read(texts, from, from + lengths[rule]);
-        }
-
-        private boolean read(int[] bytes, int from, int to) {
-            text = bytes;
-            at = from;
-            end = Math.min(to, bytes.length);
-            faultAt = NONE;
-            boolean holding = any(0);
-            if (at < end) {
-                stop(at);
-            }
-            return holding;
-        }
-
-        private boolean any(int depth) {
-            boolean holding = all(depth);
+        private void any(int depth) {
+            all(depth);
             for (int turn = 0; turn < Tape.MOST && passes('|'); turn++) {
-                boolean further = all(depth);
-                holding = holding || further;
+                all(depth);
+                write('|', 0);
             }
-            return holding;
         }
 
-        private boolean all(int depth) {
-            boolean holding = unit(depth);
+        private void all(int depth) {
+            unit(depth);
             for (int turn = 0; turn < Tape.MOST && passes('&'); turn++) {
-                boolean further = unit(depth);
-                holding = holding && further;
+                unit(depth);
+                write('&', 0);
             }
-            return holding;
         }
 
-        private boolean unit(int depth) {
+        private void unit(int depth) {
             skipBlanks();
             int sign = here();
             if (sign == '!') {
-                return enters(depth) && !unit(depth + 1);
+                if (enters(depth)) {
+                    unit(depth + 1);
+                    write('!', 0);
+                }
+            } else if (sign == '(') {
+                if (enters(depth)) {
+                    any(depth + 1);
+                    expect(')');
+                }
+            } else if (isDigit(sign)) {
+                atLeast(depth);
+            } else {
+                fact(sign);
             }
-            if (sign == '(') {
-                return enters(depth) && within(depth + 1);
-            }
-            return isDigit(sign) ? atLeast(depth) : fact(sign);
         }
 
-        private boolean within(int depth) {
-            boolean holding = any(depth);
-            expect(')');
-            return holding;
-        }
-
-        private boolean atLeast(int depth) {
+        private void atLeast(int depth) {
             int need = number(MOST_NUMBER);
             skipBlanks();
             if (here() != '{') {
                 stop(at);
-                return false;
-            }
-            if (!enters(depth)) {
-                return false;
-            }
-            int holding = any(depth + 1) ? 1 : 0;
-            for (int turn = 0; turn < Tape.MOST && passes(','); turn++) {
-                if (any(depth + 1)) {
-                    holding++;
+            } else if (enters(depth)) {
+                any(depth + 1);
+                int among = 1;
+                for (int turn = 0; turn < Tape.MOST && passes(','); turn++) {
+                    any(depth + 1);
+                    among++;
                 }
+                expect('}');
+                write('{', need + NUMBERS * among);
             }
-            expect('}');
-            return holding >= need;
         }
 
-        private boolean fact(int sign) {
+        private void fact(int sign) {
             boolean ofHolder = sign == 'h' || sign == 'n' || sign == 'd';
-            if (!ofHolder && sign != 'w') {
+            if (ofHolder || sign == 'w') {
+                at++;
+                write(sign, number(ofHolder ? MOST_HOLDERS - 1 : MOST_NUMBER));
+            } else {
                 stop(at);
-                return false;
-            }
-            at++;
-            int number = number(ofHolder ? MOST_HOLDERS - 1 : MOST_NUMBER);
-            if (faultAt != NONE) {
-                return false;
-            }
-            switch (sign) {
-                case 'h':
-                    return hasBit(saidYes, number);
-                case 'n':
-                    return hasBit(saidNo, number);
-                case 'd':
-                    return hasBit(deadOnes, number);
-                default:
-                    return waited >= number;
             }
         }
 
@@ -1238,7 +1218,7 @@ public final class LifeKeys {
         }
 
         private void skipBlanks() {
-            while (at < end && here() == ' ') {
+            while (at >= 0 && at < end && text[at] == ' ') {
                 at++;
             }
         }
@@ -1254,8 +1234,87 @@ public final class LifeKeys {
             }
         }
 
+        private void write(int sign, int number) {
+            if (faultAt == NONE && drafted < draft.length) {
+                draft[drafted] = sign + SIGNS * number;
+                drafted++;
+            }
+        }
+
         private static boolean isDigit(int sign) {
             return sign >= '0' && sign <= '9';
+        }
+
+        /** With bits of those who said yes (and 12 higher, no), of the dead, and days since the asking or NONE. */
+        boolean holds(int rule, int voices, int dead, int days) {
+            if (!knows(rule)) {
+                return false;
+            }
+            saidYes = voices & Sayings.YES;
+            saidNo = voices >>> MOST_HOLDERS;
+            deadOnes = dead;
+            waited = days;
+            height = 0;
+            int from = rule * Tape.MOST;
+            for (int i = 0; i < lengths[rule]; i++) {
+                weigh(words[from + i]);
+            }
+            return pop();
+        }
+
+        private void weigh(int word) {
+            int number = word / SIGNS;
+            switch (word % SIGNS) {
+                case '!':
+                    push(!pop());
+                    break;
+                case '&':
+                    push(pop() & pop());
+                    break;
+                case '|':
+                    push(pop() | pop());
+                    break;
+                case '{':
+                    push(popHolding(number / NUMBERS) >= number % NUMBERS);
+                    break;
+                case 'h':
+                    push(hasBit(saidYes, number));
+                    break;
+                case 'n':
+                    push(hasBit(saidNo, number));
+                    break;
+                case 'd':
+                    push(hasBit(deadOnes, number));
+                    break;
+                default:
+                    push(waited >= number);
+                    break;
+            }
+        }
+
+        private void push(boolean holding) {
+            if (height < stack.length) {
+                stack[height] = holding;
+                height++;
+            }
+        }
+
+        private boolean pop() {
+            if (height <= 0) {
+                return false;
+            }
+            height--;
+            return stack[height];
+        }
+
+        private int popHolding(int among) {
+            int holding = 0;
+            for (int i = 0; i < among; i++) {
+                if (pop()) {
+                    holding++;
+                }
+            }
+            return holding;
         }
     }
 
