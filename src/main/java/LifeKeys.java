@@ -1138,13 +1138,19 @@ public final class LifeKeys {
                 }
             } else if (sign == '(') {
                 if (enters(depth)) {
-                    any(depth + 1);
-                    expect(')');
+                    within(depth + 1);
                 }
             } else if (isDigit(sign)) {
                 atLeast(depth);
             } else {
                 fact(sign);
+            }
+        }
+
+        private void within(int depth) {
+            any(depth);
+            if (!passes(')')) {
+                stop(at);
             }
         }
 
@@ -1160,7 +1166,9 @@ public final class LifeKeys {
                     any(depth + 1);
                     among++;
                 }
-                expect('}');
+                if (!passes('}')) {
+                    stop(at);
+                }
                 write('{', need + NUMBERS * among);
             }
         }
@@ -1209,12 +1217,6 @@ public final class LifeKeys {
             }
             at++;
             return true;
-        }
-
-        private void expect(int sign) {
-            if (!passes(sign)) {
-                stop(at);
-            }
         }
 
         private void skipBlanks() {
