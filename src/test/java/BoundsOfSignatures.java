@@ -226,7 +226,7 @@ final class BoundsOfSignatures extends Bounds {
             }
         });
         terms("of the lowest first, for each y as above, starting with the seed;", () -> {
-            // Whose t does not agree when the PART is FALSE: each t goes to its own HOLDER.
+            // Those who do not sign get no start: the first y goes to HOLDER 1.
             LifeKeys x = signers(3, 1, 77, 9, 5);
             int[] t = starts(2, 8);
             int r = rOf(t);
