@@ -129,6 +129,23 @@ final class BoundsOfFalls extends Bounds {
             x.take(3, 2);
             leasts(x, 2, 1, NONE, NONE, NONE);
         });
+        terms("LEAST of a KEY: the fewest HOLDERS whose FALL would lose it (0), or lay it bare (1), of all HOLDERS;", () -> {
+            // Each of 40 KEYS, the first and the last among them, is GOT by way of another alone.
+            for (int key = 0; key < 40; key++) {
+                LifeKeys x = with(3);
+                for (int i = 0; i < 40; i++) {
+                    x.key(1, false);
+                }
+                int outer = (key + 1) % 40;
+                x.wrap(key, outer);
+                x.give(2, outer);
+                leasts(x, key, 1, 1, 1, 0b100);
+                leasts(x, key, 0, 1, 1, 0b100);
+                x.part(outer, 0b011, 2, 1);
+                leasts(x, key, 1, 1, 1, 0b100);
+                leasts(x, key, 0, 2, 2, 0b101);
+            }
+        });
         terms("WAYS: how many such sets;", () -> {
             for (int need = 1; need <= 12; need++) {
                 LifeKeys x = parted(12, 4095, need);
