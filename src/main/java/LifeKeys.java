@@ -1271,10 +1271,10 @@ public final class LifeKeys {
                     push(!pop());
                     break;
                 case '&':
-                    push(pop() & pop());
+                    push(popHolding(2) == 2);
                     break;
                 case '|':
-                    push(pop() | pop());
+                    push(popHolding(2) >= 1);
                     break;
                 case '{':
                     push(popHolding(number / NUMBERS) >= number % NUMBERS);

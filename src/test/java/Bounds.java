@@ -142,25 +142,13 @@ abstract class Bounds {
         return x;
     }
 
-    /** The TAPE has these signs alone; each is fed, 20 a call. */
-    static void tape(LifeKeys x, String text) {
-        x.end(0);
-        for (int i = 0; i < text.length(); i += 20) {
-            int[] f = new int[5];
-            for (int j = 0; j < 20 && i + j < text.length(); j++) {
-                f[j / 4] |= text.charAt(i + j) << 24 - j % 4 * 8;
-            }
-            x.feed(f[0], f[1], f[2], f[3], f[4]);
-        }
-    }
-
     static int rule(LifeKeys x, String text) {
-        tape(x, text);
+        Texts.tape(x, text);
         return x.rule();
     }
 
     static int make(LifeKeys x, int root, String name) {
-        tape(x, name);
+        Texts.tape(x, name);
         return x.make(root);
     }
 

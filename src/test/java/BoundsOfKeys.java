@@ -90,7 +90,7 @@ final class BoundsOfKeys extends Bounds {
     private static int refusedWhenFull() {
         LifeKeys x = with(12);
         int found = x.holder() == NONE ? 1 : 0;
-        tape(x, signs('(', 160));
+        Texts.tape(x, signs('(', 160));
         found += x.feed(1, 0, 0, 0, 0) == NONE ? 1 : 0;
         return found + (x.rule() == NONE && x.join() == NONE ? 1 : 0);
     }
@@ -508,7 +508,7 @@ final class BoundsOfKeys extends Bounds {
 
     private static void tapeOf(LifeKeys x, int length) {
         Twins.rich(x);
-        tape(x, signs('h', length));
+        Texts.tape(x, signs('h', length));
     }
 
     private static void feedTooMuch() {
@@ -538,7 +538,7 @@ final class BoundsOfKeys extends Bounds {
     private static void end() {
         test(6, "The TAPE has its first n bytes alone.", () -> {
             LifeKeys x = new LifeKeys();
-            tape(x, "h1&h12");
+            Texts.tape(x, "h1&h12");
             is("all of 6", x.end(6), true);
             is("fault of 6", x.fault(), 5);
             is("5 of 6", x.end(5), true);
@@ -549,7 +549,7 @@ final class BoundsOfKeys extends Bounds {
             is("0 of 2", x.end(0), true);
             is("count", x.count(11), 0);
             is("0 of 0", x.end(0), true);
-            tape(x, "n1&n2");
+            Texts.tape(x, "n1&n2");
             x.end(3);
             x.feed('x', 0, 0, 0, 0);
             is("what comes then is behind the first 3", x.fault(), 3);
@@ -560,7 +560,7 @@ final class BoundsOfKeys extends Bounds {
             }
             LifeKeys x = new LifeKeys();
             is("1 of 0", x.end(1), false);
-            tape(x, signs('h', 160));
+            Texts.tape(x, signs('h', 160));
             is("161 of 160", x.end(161), false);
             is("160 of 160", x.end(160), true);
             x.end(80);

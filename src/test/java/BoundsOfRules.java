@@ -24,7 +24,7 @@ final class BoundsOfRules extends Bounds {
         for (int i = Twins.RULES; i < 20; i++) {
             rule(x, "w" + i);
         }
-        tape(x, "h1&n2");
+        Texts.tape(x, "h1&n2");
     }
 
     static void fullDeaths(LifeKeys x) {
@@ -54,7 +54,7 @@ final class BoundsOfRules extends Bounds {
 
     private static void fault(String text, int due) {
         LifeKeys x = new LifeKeys();
-        tape(x, text);
+        Texts.tape(x, text);
         is("fault of '" + text + "'", x.fault(), due);
         is("rule of '" + text + "'", x.rule(), due == NONE ? 0 : NONE);
     }
@@ -609,7 +609,7 @@ final class BoundsOfRules extends Bounds {
             is("an empty TAPE", new LifeKeys().fault(), 0);
             LifeKeys y = built(BoundsOfRules::fullRules);
             is("none, though there are 20", y.fault(), NONE);
-            tape(y, "h1&n2x");
+            Texts.tape(y, "h1&n2x");
             is("5", y.fault(), 5);
         });
     }
@@ -651,7 +651,7 @@ final class BoundsOfRules extends Bounds {
             for (String text : new String[] {"", " ", "h12", "h1&", "x", "(h1", "h1 h2", "!!!!!!!!!h1", "w1000"}) {
                 none(x -> {
                     Twins.rich(x);
-                    tape(x, text);
+                    Texts.tape(x, text);
                 }, "rule of '" + text + "'", LifeKeys::rule);
             }
         });

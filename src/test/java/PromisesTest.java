@@ -34,14 +34,7 @@ public final class PromisesTest {
     }
 
     private static void tape(LifeKeys x, String text) {
-        x.end(0);
-        for (int i = 0; i < text.length(); i += 20) {
-            int[] f = new int[5];
-            for (int j = 0; j < 20 && i + j < text.length(); j++) {
-                f[j / 4] |= text.charAt(i + j) << 24 - j % 4 * 8;
-            }
-            x.feed(f[0], f[1], f[2], f[3], f[4]);
-        }
+        Texts.tape(x, text);
         is("bytes of " + text, x.count(11), text.length());
     }
 

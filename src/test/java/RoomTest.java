@@ -61,17 +61,6 @@ public final class RoomTest {
         }
     }
 
-    private static void tape(LifeKeys x, String text) {
-        x.end(0);
-        for (int i = 0; i < text.length(); i += 20) {
-            int[] f = new int[5];
-            for (int j = 0; j < 20 && i + j < text.length(); j++) {
-                f[j / 4] |= text.charAt(i + j) << 24 - j % 4 * 8;
-            }
-            x.feed(f[0], f[1], f[2], f[3], f[4]);
-        }
-    }
-
     /** As full of everything as it can be, with the dearest rules and partings. */
     private static LifeKeys full() {
         LifeKeys x = new LifeKeys();
@@ -80,7 +69,7 @@ public final class RoomTest {
         }
         x.key(5, true);
         for (int i = 1; i < 20; i++) {
-            tape(x, "name" + (char) (64 + i));
+            Texts.tape(x, "name" + (char) (64 + i));
             x.make(0);
         }
         for (int i = 20; i < 40; i++) {
@@ -90,9 +79,9 @@ public final class RoomTest {
         while (text.length() < 157) {
             text.append("d0|");
         }
-        tape(x, text + "d1");
+        Texts.tape(x, text + "d1");
         x.rule();
-        tape(x, "((((((((h1|w3))))))))");
+        Texts.tape(x, "((((((((h1|w3))))))))");
         x.rule();
         for (int i = 0; i < 40; i++) {
             x.wrap(i, (i + 39) % 40);

@@ -66,7 +66,7 @@ final class Twins {
         richRules(x);
         x.days(NOW - 3);
         richHands(x);
-        Bounds.tape(x, "h1&n2");
+        Texts.tape(x, "h1&n2");
         x.lay(0, 17);
         x.lay(3, 900);
     }
